@@ -271,17 +271,24 @@ public final class PrimeKeys {
 
         void finish(byte[] to) {
             block[used] = (byte) 128;
-            Arrays.fill(block, used + 1, BLOCK_BYTES, (byte) 0);
-            if (used >= LENGTH_AT) {
+            used++;
+            if (used > LENGTH_AT) {
+                clearRestOfBlock();
                 mixBlock();
-                Arrays.fill(block, 0, LENGTH_AT, (byte) 0);
             }
+            clearRestOfBlock();
             // The longest row here has fewer than 2^17 bytes, so the length's high word stays 0.
             Words.put(0, block, LENGTH_AT);
             Words.put(8 * total, block, LENGTH_AT + 4);
             mixBlock();
             for (int i = 0; i < STATE_WORDS; i++) {
                 Words.put(state[i], to, 4 * i);
+            }
+        }
+
+        private void clearRestOfBlock() {
+            for (int i = used; i < BLOCK_BYTES; i++) {
+                block[i] = 0;
             }
         }
 
@@ -716,7 +723,7 @@ public final class PrimeKeys {
         private static final int DIGIT_BITS = 4;
         private static final int DIGITS = 64;
         private static final int MULTIPLES = 16;
-        private static final int SCRATCH_ROWS = 8;
+        private static final int SCRATCH_ROWS = 5;
 
         final byte[] none = new byte[NUMBER_BYTES];
         private final Modulus field = new Modulus(PRIME);
