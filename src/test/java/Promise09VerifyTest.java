@@ -22,6 +22,7 @@ public final class Promise09VerifyTest {
         xAboveTheOrder();
         everyByteChanged();
         otherThingsStay();
+        nothingStaysOfTheLastOne();
         refusesShortTapes();
         Check.end();
     }
@@ -225,6 +226,25 @@ public final class Promise09VerifyTest {
         Check.same("signatures made", x.count(4), 0);
         x.sign(0);
         Check.same("message after verify", Hand.result(x), SIGNATURE);
+    }
+
+    // Long numbers, then short ones, then a signature that is made: on one object.
+    private static void nothingStaysOfTheLastOne() {
+        PrimeKeys x = new PrimeKeys();
+        Hand.key(x, SECRET);
+        Hand.message(x, MESSAGE);
+        BigInteger longest = BigInteger.ONE.shiftLeft(263).subtract(BigInteger.ONE);
+        Check.same("good", Hand.verify(x, PUBLIC, SIGNATURE), 0);
+        Check.same("r is 0", Hand.verify(x, PUBLIC, Reference.der(BigInteger.ZERO, BigInteger.ONE)), 2);
+        Check.same("good", Hand.verify(x, PUBLIC, SIGNATURE), 0);
+        Check.same("s is 0", Hand.verify(x, PUBLIC, Reference.der(BigInteger.ONE, BigInteger.ZERO)), 2);
+        Check.same("long r and s", Hand.verify(x, PUBLIC, Reference.der(longest, longest)), 2);
+        Check.same("good after long ones", Hand.verify(x, PUBLIC, SIGNATURE), 0);
+        Check.same("no key", Hand.verify(x, new byte[65], SIGNATURE), 3);
+        Check.same("good after no key", Hand.verify(x, PUBLIC, SIGNATURE), 0);
+        Check.same("long r and s", Hand.verify(x, PUBLIC, Reference.der(longest, longest)), 2);
+        x.sign(0);
+        Check.same("signature after long numbers", Hand.result(x), SIGNATURE);
     }
 
     private static void refusesShortTapes() {
