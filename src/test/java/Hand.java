@@ -34,8 +34,8 @@ final class Hand {
     static void feed(PrimeKeys x, byte[] row) {
         int before = x.count(0);
         for (int at = 0; at < row.length; at += 20) {
-            byte[] part = Arrays.copyOf(Arrays.copyOfRange(row, at, Math.min(at + 20, row.length)), 20);
-            x.feed(word(part, 0), word(part, 4), word(part, 8), word(part, 12), word(part, 16));
+            int[] words = words(Arrays.copyOfRange(row, at, at + 20));
+            x.feed(words[0], words[1], words[2], words[3], words[4]);
         }
         x.end(before + row.length);
     }
@@ -83,7 +83,12 @@ final class Hand {
         Check.same(what + ": signature of the tape", result(x), Reference.sign(secret, due));
     }
 
-    private static int word(byte[] row, int at) {
-        return (row[at] & 255) << 24 | (row[at + 1] & 255) << 16 | (row[at + 2] & 255) << 8 | row[at + 3] & 255;
+    /** Four bytes each, the highest first. */
+    static int[] words(byte[] row) {
+        int[] words = new int[row.length / 4];
+        for (int i = 0; i < row.length; i++) {
+            words[i / 4] = words[i / 4] << 8 | row[i] & 255;
+        }
+        return words;
     }
 }

@@ -112,7 +112,15 @@ final class Model {
         return what >= 0 && what < counts.length ? counts[what] : -1;
     }
 
-    private BigInteger secret(int key) {
+    byte[] tape() {
+        return tape.clone();
+    }
+
+    byte[] text() {
+        return text.clone();
+    }
+
+    BigInteger secret(int key) {
         if (key < 0 || key >= secrets.size()) {
             throw new NoSuchElementException();
         }

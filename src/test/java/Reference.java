@@ -2,6 +2,9 @@ import java.math.BigInteger;
 import java.security.GeneralSecurityException;
 import java.security.MessageDigest;
 import java.util.Arrays;
+import java.util.HashMap;
+import java.util.List;
+import java.util.Map;
 import javax.crypto.Mac;
 import javax.crypto.spec.SecretKeySpec;
 
@@ -15,6 +18,7 @@ final class Reference {
         hex("4fe342e2fe1a7f9b8ee7eb4a7c0f9e162bce33576b315ececbb6406837bf51f5")
     };
     private static final BigInteger THREE = BigInteger.valueOf(3);
+    private static final Map<List<BigInteger>, BigInteger[]> PRODUCTS = new HashMap<>();
 
     private Reference() {
     }
@@ -65,7 +69,12 @@ final class Reference {
         return new BigInteger[] {x, slope.multiply(a[0].subtract(x)).subtract(a[1]).mod(P)};
     }
 
+    // The same products come again and again where a state is rebuilt to be looked at.
     static BigInteger[] times(BigInteger factor, BigInteger[] point) {
+        return PRODUCTS.computeIfAbsent(List.of(factor, point[0], point[1]), k -> product(factor, point));
+    }
+
+    private static BigInteger[] product(BigInteger factor, BigInteger[] point) {
         BigInteger[] sum = null;
         for (int i = factor.bitLength() - 1; i >= 0; i--) {
             sum = add(sum, sum);
