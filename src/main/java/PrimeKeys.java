@@ -278,7 +278,6 @@ public final class PrimeKeys {
             }
             clearRestOfBlock();
             // The longest row here has fewer than 2^17 bytes, so the length's high word stays 0.
-            Words.put(0, block, LENGTH_AT);
             Words.put(8 * total, block, LENGTH_AT + 4);
             mixBlock();
             for (int i = 0; i < STATE_WORDS; i++) {

@@ -3,7 +3,7 @@ import java.util.NoSuchElementException;
 
 /**
  * Promise 8 at its edges: "THE RESULT is the KEY's SIGNATURE of THE MESSAGE: its length." "No such KEY."
- * That none of the first 100 nonces gives r and s that are not 0 cannot be brought about.
+ * That none of the first 100 nonces gives r and s that are not 0 is tested in EdgesNoncesTest.
  */
 public final class Edges08SignTest {
     private static final BigInteger SECRET =

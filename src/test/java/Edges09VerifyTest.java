@@ -26,6 +26,7 @@ public final class Edges09VerifyTest {
         goodAndNotGood();
         sumsAtTheEdge();
         xAtTheOrder();
+        xBesideR();
         theMessageOfTheTime();
         everyVerdictIsCounted();
         theDigestIsTooHigh();
@@ -197,23 +198,41 @@ public final class Edges09VerifyTest {
 
     // x of the sum lies from the order to the prime: r is x less the order, while x itself is out of range.
     private static void xAtTheOrder() {
-        BigInteger e = Reference.number(Reference.digest(TEXT));
         BigInteger x = Reference.N;
         for (int found = 0; found < 4; x = x.add(ONE)) {
-            BigInteger y = Reference.yOf(x);
             BigInteger r = x.subtract(Reference.N);
-            if (y != null && r.signum() > 0) {
+            if (Reference.yOf(x) != null && r.signum() > 0) {
                 found++;
                 BigInteger s = SECRET.add(BigInteger.valueOf(found));
-                BigInteger w = s.modInverse(Reference.N);
-                BigInteger[] rest = Reference.add(new BigInteger[] {x, y},
-                    Reference.negative(Reference.times(e.multiply(w).mod(Reference.N), Reference.BASE)));
-                BigInteger back = r.multiply(w).modInverse(Reference.N);
-                BigInteger[] key = Reference.times(back, rest);
-                byte[] row = Reference.publicBytes(key[0], key[1]);
-                judged("x above the order", 0, row, Reference.der(r, s));
-                judged("x itself", 2, row, Reference.der(x, s));
-                judged("r + 1", 4, row, Reference.der(r.add(ONE), s));
+                byte[] key = keyForSum(x, r, s);
+                judged("x above the order", 0, key, Reference.der(r, s));
+                judged("x itself", 2, key, Reference.der(x, s));
+                judged("r + 1", 4, key, Reference.der(r.add(ONE), s));
+                BigInteger near = r.add(ONE);
+                judged("r beside x above the order", 4, keyForSum(x, near, s), Reference.der(near, s));
+            }
+        }
+    }
+
+    // The public key with which this r and s bring the point with this x as the sum, be r its x or not.
+    private static byte[] keyForSum(BigInteger x, BigInteger r, BigInteger s) {
+        BigInteger e = Reference.number(Reference.digest(TEXT));
+        BigInteger w = s.modInverse(Reference.N);
+        BigInteger[] sum = {x, Reference.yOf(x)};
+        BigInteger[] rest = Reference.add(sum,
+            Reference.negative(Reference.times(e.multiply(w).mod(Reference.N), Reference.BASE)));
+        BigInteger[] key = Reference.times(r.multiply(w).modInverse(Reference.N), rest);
+        return Reference.publicBytes(key[0], key[1]);
+    }
+
+    // Sums whose x is not r, but only just: one bit apart.
+    private static void xBesideR() {
+        BigInteger x = Reference.BASE[0];
+        judged("x is r", 0, keyForSum(x, x, S), Reference.der(x, S));
+        for (int bit = 0; bit < 256; bit++) {
+            BigInteger r = x.flipBit(bit);
+            if (Reference.isInRange(r)) {
+                judged("x is r but for bit " + bit, 4, keyForSum(x, r, S), Reference.der(r, S));
             }
         }
     }

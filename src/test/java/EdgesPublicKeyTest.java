@@ -42,6 +42,7 @@ public final class EdgesPublicKeyTest {
         yBelowThePrime();
         bothAboveThePrime();
         ofAPointOfTheCurve();
+        ofNoCurveBesideIt();
         theNeutralPointIsNone();
         highestFirst();
         Check.end();
@@ -182,6 +183,31 @@ public final class EdgesPublicKeyTest {
             none = none.add(BigInteger.ONE);
         }
         isNone("an x that no point has", none, Reference.yOf(BigInteger.ZERO));
+    }
+
+    // Points of curves whose b is a little higher or lower, by one bit: as it is, and in other forms that a
+    // program may hold its numbers in.
+    private static void ofNoCurveBesideIt() {
+        BigInteger two = BigInteger.TWO;
+        BigInteger[] forms = {BigInteger.ONE, two.modPow(BigInteger.valueOf(-256), Reference.P),
+            two.modPow(BigInteger.valueOf(-261), Reference.P)};
+        for (BigInteger form : forms) {
+            for (int bit = 0; bit < 256; bit += 3) {
+                BigInteger step = BigInteger.ONE.shiftLeft(bit).multiply(form).mod(Reference.P);
+                isNone("b is higher by bit " + bit, beside(step));
+                isNone("b is lower by bit " + bit, beside(Reference.P.subtract(step)));
+            }
+        }
+    }
+
+    private static byte[] beside(BigInteger step) {
+        BigInteger x = BigInteger.ONE;
+        BigInteger y = null;
+        while (y == null) {
+            x = x.add(BigInteger.ONE);
+            y = Reference.yOf(x, Reference.B.add(step));
+        }
+        return Reference.publicBytes(x, y);
     }
 
     private static void theNeutralPointIsNone() {

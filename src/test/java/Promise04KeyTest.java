@@ -70,21 +70,21 @@ public final class Promise04KeyTest {
     }
 
     private static void refusesThe101st() {
-        PrimeKeys x = new PrimeKeys();
+        Run run = new Run("100 keys");
         for (int i = 0; i < 100; i++) {
-            Check.same("key", Hand.key(x, BigInteger.valueOf(i + 1)), i);
+            run.key(BigInteger.valueOf(i + 1));
         }
-        Hand.feed(x, Reference.bytes32(BigInteger.TEN));
-        Check.refuses("key 101", x, IllegalStateException.class, x::key);
-        x.end(31);
-        Check.refuses("key 101 of 31 bytes", x, IllegalArgumentException.class, x::key);
-        x.end(0);
-        Check.refuses("key 101 of no bytes", x, IllegalArgumentException.class, x::key);
-        Hand.feed(x, new byte[32]);
-        Check.refuses("key 101 that is 0", x, IllegalArgumentException.class, x::key);
-        x.open(99);
-        Check.same("public key of the 100th", Hand.result(x), Reference.publicKey(BigInteger.valueOf(100)));
-        x.open(0);
-        Check.same("public key of the first", Hand.result(x), Reference.publicKey(BigInteger.ONE));
+        run.tape(Reference.bytes32(BigInteger.TEN));
+        run.refuses(IllegalStateException.class, "key");
+        run.gives(31, "end", 31);
+        run.refuses(IllegalArgumentException.class, "key");
+        run.gives(0, "end", 0);
+        run.refuses(IllegalArgumentException.class, "key");
+        run.tape(new byte[32]);
+        run.refuses(IllegalArgumentException.class, "key");
+        run.gives(0, "open", 99);
+        run.resultIs(Reference.publicKey(BigInteger.valueOf(100)));
+        run.gives(0, "open", 0);
+        run.gives(Reference.publicKey(BigInteger.ONE)[1] & 255, "result", 1);
     }
 }

@@ -105,20 +105,18 @@ public final class Promise06AgreeTest {
     }
 
     private static void refusesOtherKeys() {
-        PrimeKeys x = new PrimeKeys();
-        Hand.key(x, BigInteger.TWO);
-        x.open(0);
         int[] wrong = {-1, 1, 100, Integer.MIN_VALUE, Integer.MAX_VALUE};
         for (int key : wrong) {
+            PrimeKeys x = new PrimeKeys();
+            Hand.key(x, BigInteger.TWO);
+            x.open(0);
             Check.refuses("agree(" + key + ") without a tape", x, NoSuchElementException.class, () -> x.agree(key));
-        }
-        x.back(-1, 0);
-        for (int key : wrong) {
+            x.back(-1, 0);
             Check.refuses("agree(" + key + ")", x, NoSuchElementException.class, () -> x.agree(key));
+            x.agree(0);
+            Check.same("the tape stayed", Hand.result(x),
+                Reference.bytes32(Reference.times(BigInteger.valueOf(4), Reference.BASE)[0]));
         }
-        x.agree(0);
-        Check.same("the tape stayed", Hand.result(x),
-            Reference.bytes32(Reference.times(BigInteger.valueOf(4), Reference.BASE)[0]));
     }
 
     private static void refusesNoPublicKey() {

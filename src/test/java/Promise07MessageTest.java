@@ -29,11 +29,11 @@ public final class Promise07MessageTest {
     private static void longMessage() {
         PrimeKeys x = new PrimeKeys();
         Hand.key(x, SECRET);
-        byte[] row = pattern(9800);
+        byte[] row = pattern(8200);
         Hand.feed(x, row);
-        Check.same("message of 9800 bytes", x.message(), 9800);
+        Check.same("message of 8200 bytes", x.message(), 8200);
         x.sign(0);
-        Check.same("signature of 9800 bytes", Hand.result(x), Reference.sign(SECRET, row));
+        Check.same("signature of 8200 bytes", Hand.result(x), Reference.sign(SECRET, row));
     }
 
     private static void isTheTapeAtThatTime() {

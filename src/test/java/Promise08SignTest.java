@@ -98,11 +98,11 @@ public final class Promise08SignTest {
     }
 
     private static void refusesOtherKeys() {
-        PrimeKeys x = new PrimeKeys();
-        Hand.key(x, BigInteger.TWO);
-        x.sign(0);
         int[] wrong = {-1, 1, 2, 100, Integer.MIN_VALUE, Integer.MAX_VALUE};
         for (int key : wrong) {
+            PrimeKeys x = new PrimeKeys();
+            Hand.key(x, BigInteger.TWO);
+            x.sign(0);
             Check.refuses("sign(" + key + ")", x, NoSuchElementException.class, () -> x.sign(key));
         }
     }

@@ -65,16 +65,13 @@ public final class Promise10BackTest {
     }
 
     private static void refusesOtherPlaces() {
-        PrimeKeys x = opened();
-        Hand.feed(x, Hand.text("abc"));
         int[] wrong = {-2, 65, 66, 72, Integer.MIN_VALUE, Integer.MAX_VALUE};
         for (int at : wrong) {
+            PrimeKeys x = opened();
+            Hand.feed(x, Hand.text("abc"));
             Check.refuses("back(" + at + ", 1)", x, IndexOutOfBoundsException.class, () -> x.back(at, 1));
         }
-        x.back(-1, 0);
-        x.end(65);
-        x.end(0);
-        x.open(0);
+        PrimeKeys x = opened();
         x.back(-1, 0);
         x.agree(0);
         Check.same("back(31, 1) of 32 bytes", x.back(31, 1), 32);

@@ -47,9 +47,14 @@ final class Reference {
 
     /** A y for this x, or null if the curve has none. */
     static BigInteger yOf(BigInteger x) {
-        BigInteger square = x.pow(3).subtract(x.multiply(THREE)).add(B).mod(P);
+        return yOf(x, B);
+    }
+
+    /** The same on the curve that has this number as its b. */
+    static BigInteger yOf(BigInteger x, BigInteger b) {
+        BigInteger square = x.pow(3).subtract(x.multiply(THREE)).add(b).mod(P);
         BigInteger y = square.modPow(P.add(BigInteger.ONE).shiftRight(2), P);
-        return isOnCurve(x, y) ? y : null;
+        return y.multiply(y).mod(P).equals(square) ? y : null;
     }
 
     /** The neutral point is null. */
@@ -137,22 +142,40 @@ final class Reference {
     }
 
     private static BigInteger[] nonce(BigInteger secret, byte[] message) {
-        byte[] seed = Hand.join(bytes32(secret), bytes32(number(digest(message)).mod(N)));
-        byte[] value = new byte[32];
-        Arrays.fill(value, (byte) 1);
-        byte[] key = new byte[32];
-        for (byte tag = 0; tag < 2; tag++) {
-            key = mac(key, Hand.join(value, new byte[] {tag}, seed));
-            value = mac(key, value);
-        }
+        byte[][] state = keyAndValue(secret, message);
         for (int refused = 0; ; refused++) {
-            value = mac(key, value);
-            if (isInRange(number(value))) {
-                return new BigInteger[] {number(value), BigInteger.valueOf(refused)};
+            state[1] = mac(state[0], state[1]);
+            if (isInRange(number(state[1]))) {
+                return new BigInteger[] {number(state[1]), BigInteger.valueOf(refused)};
             }
-            key = mac(key, Hand.join(value, new byte[] {0}));
-            value = mac(key, value);
+            refuse(state);
         }
+    }
+
+    /** The value V of RFC 6979 after so many candidates, all of them refused. */
+    static byte[] valueAfter(BigInteger secret, byte[] message, int refusals) {
+        byte[][] state = keyAndValue(secret, message);
+        for (int i = 0; i < refusals; i++) {
+            state[1] = mac(state[0], state[1]);
+            refuse(state);
+        }
+        return state[1];
+    }
+
+    private static byte[][] keyAndValue(BigInteger secret, byte[] message) {
+        byte[] seed = Hand.join(bytes32(secret), bytes32(number(digest(message)).mod(N)));
+        byte[][] state = new byte[2][32];
+        Arrays.fill(state[1], (byte) 1);
+        for (byte tag = 0; tag < 2; tag++) {
+            state[0] = mac(state[0], Hand.join(state[1], new byte[] {tag}, seed));
+            state[1] = mac(state[0], state[1]);
+        }
+        return state;
+    }
+
+    private static void refuse(byte[][] state) {
+        state[0] = mac(state[0], Hand.join(state[1], new byte[] {0}));
+        state[1] = mac(state[0], state[1]);
     }
 
     static byte[] sign(BigInteger secret, byte[] message) {

@@ -17,17 +17,21 @@ public final class RoomTest {
         long built = made();
         Hand.key(x, BigInteger.TEN);
         long before = made();
-        for (int i = 0; i < 45; i++) {
+        for (int i = 0; i < 40; i++) {
             round(x);
         }
         long after = made();
+        PrimeKeys y = new PrimeKeys();
+        Hand.key(y, BigInteger.TEN);
+        y.sign(0);
+        long empty = made();
         for (int i = 0; i < 500; i++) {
-            x.back(-1, 0);
+            y.back(-1, 0);
         }
         long grown = made();
         Check.isTrue("a new object takes " + (built - start) + " bytes", built - start <= NEW_OBJECT_BYTES);
         Check.isTrue("calls make " + (after - before) + " bytes", after - before <= 1024);
-        Check.isTrue("a tape makes " + (grown - after) + " bytes", grown - after <= TAPE_BYTES);
+        Check.isTrue("a tape makes " + (grown - empty) + " bytes", grown - empty <= TAPE_BYTES);
         Check.end();
     }
 
