@@ -214,10 +214,6 @@ public final class PrimeKeys {
             to[at + 2] = (byte) (word >>> 8);
             to[at + 3] = (byte) word;
         }
-
-        static int get(byte[] from, int at) {
-            return from[at] << 24 | (from[at + 1] & 255) << 16 | (from[at + 2] & 255) << 8 | from[at + 3] & 255;
-        }
     }
 
     /** SHA-256 (FIPS 180-4). */
@@ -328,7 +324,9 @@ public final class PrimeKeys {
 
         private void fillSchedule() {
             for (int i = 0; i < 16; i++) {
-                schedule[i] = Words.get(block, 4 * i);
+                int at = 4 * i;
+                schedule[i] = block[at] << 24 | (block[at + 1] & 255) << 16 | (block[at + 2] & 255) << 8
+                        | block[at + 3] & 255;
             }
             for (int i = 16; i < ROUNDS; i++) {
                 int old = schedule[i - 15];
@@ -522,7 +520,7 @@ public final class PrimeKeys {
         // because it nearly always tells a product to be below the prime.
         void reduceOnce(long[] a) {
             if (a[TOP] >= prime[TOP] && lessPrime(a) >= 0) {
-                Limbs.copy(spare, a);
+                System.arraycopy(spare, 0, a, 0, Limbs.COUNT);
             }
         }
 

@@ -12,6 +12,7 @@ public final class Promise10BackTest {
         otherThingsStay();
         refusesOtherPlaces();
         fullTapeRefuses();
+        roomForShortResults();
         Check.end();
     }
 
@@ -98,6 +99,33 @@ public final class Promise10BackTest {
             due[i] = PUBLIC[i % 65];
         }
         System.arraycopy(PUBLIC, 0, due, 65471, 65);
+        Check.refuses("back on 65536 bytes", x, IllegalStateException.class, () -> x.back(-1, 0));
+        Check.refuses("back at a place on 65536 bytes", x, IllegalStateException.class, () -> x.back(0, 1));
+        Check.refuses("back before the places on 65536", x, IndexOutOfBoundsException.class, () -> x.back(-2, 0));
         Hand.tapeIs("a full tape", x, SECRET, due);
+    }
+
+    // No bytes always find room; and how many there are decides, not how many there were.
+    private static void roomForShortResults() {
+        PrimeKeys x = new PrimeKeys();
+        Hand.key(x, SECRET);
+        for (int i = 0; i < 3276; i++) {
+            x.feed(0, 0, 0, 0, 0);
+        }
+        x.end(65516);
+        Check.same("a full tape", x.feed(0, 0, 0, 0, 0), 65536);
+        Check.same("back of nothing on 65536 bytes", x.back(-1, 9), 65536);
+        Check.refuses("back of no byte on 65536", x, IndexOutOfBoundsException.class, () -> x.back(0, 9));
+        x.end(0);
+        x.open(0);
+        x.back(-1, 0);
+        x.agree(0);
+        for (int i = 0; i < 2047; i++) {
+            x.back(-1, 0);
+        }
+        Check.same("32 bytes on 65504", x.back(31, 1), 65536);
+        Check.refuses("32 bytes on 65536", x, IllegalStateException.class, () -> x.back(-1, 0));
+        x.end(65505);
+        Check.refuses("32 bytes on 65505", x, IllegalStateException.class, () -> x.back(31, 1));
     }
 }
