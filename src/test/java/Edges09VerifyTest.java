@@ -25,6 +25,7 @@ public final class Edges09VerifyTest {
         theFirstThatHolds();
         goodAndNotGood();
         sumsAtTheEdge();
+        sumsThatMeetOnTheWay();
         xAtTheOrder();
         xBesideR();
         theMessageOfTheTime();
@@ -193,6 +194,38 @@ public final class Edges09VerifyTest {
             BigInteger s = e.shiftLeft(1).multiply(k.modInverse(Reference.N)).mod(Reference.N);
             judged("twice one point", 0, Reference.publicKey(secret), Reference.der(r, s));
             judged("twice one point, r + 1", 4, Reference.publicKey(secret), Reference.der(r.add(ONE), s));
+        }
+    }
+
+    // Who walks both factors from their highest digits on, four bits at a time, comes with these keys to one
+    // point twice, or to the neutral point, before the end: with the first digits if the key is 1 or -1, with the
+    // second one of the base's factor if it is a sixteenth.
+    private static void sumsThatMeetOnTheWay() {
+        BigInteger sixteenth = BigInteger.valueOf(16).modInverse(Reference.N);
+        for (BigInteger secret : new BigInteger[] {ONE, sixteenth}) {
+            meetOnTheWay(secret, secret.equals(ONE) ? 252 : 248);
+            meetOnTheWay(Reference.N.subtract(secret), secret.equals(ONE) ? 252 : 248);
+        }
+    }
+
+    private static void meetOnTheWay(BigInteger secret, int shift) {
+        BigInteger e = Reference.number(Reference.digest(TEXT));
+        byte[] key = Reference.publicKey(secret);
+        BigInteger[] point = Reference.times(SECRET, Reference.BASE);
+        BigInteger k = SECRET;
+        for (int found = 0; found < 4; ) {
+            point = Reference.add(point, point);
+            k = k.shiftLeft(1).mod(Reference.N);
+            BigInteger r = point[0].mod(Reference.N);
+            BigInteger s = e.add(r.multiply(secret)).multiply(k.modInverse(Reference.N)).mod(Reference.N);
+            BigInteger w = s.modInverse(Reference.N);
+            int ofBase = e.multiply(w).mod(Reference.N).shiftRight(shift).intValue();
+            int ofKey = r.multiply(w).mod(Reference.N).shiftRight(248).intValue();
+            if (ofBase == ofKey >> 4 && ofBase > 0 && (ofKey & 15) > 0) {
+                found++;
+                judged("sums that meet on the way", 0, key, Reference.der(r, s));
+                judged("the same with r + 1", 4, key, Reference.der(r.add(ONE), s));
+            }
         }
     }
 
