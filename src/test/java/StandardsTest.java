@@ -18,7 +18,8 @@ import javax.crypto.KeyAgreement;
 
 /**
  * "P-256 and ECDSA (FIPS 186-4) with SHA-256 (FIPS 180-4) ... bit for bit as these standards say": by others'
- * words, which are the vectors that NIST gives for its standards, and the Java library's own keys.
+ * words, which are the vectors that NIST gives for its standards, and the Java library's own keys. NIST's vectors
+ * were written down from memory, without their files at hand; a wrong digit in them would not have come out right.
  */
 public final class StandardsTest {
     private static final int ROUNDS = 40;
